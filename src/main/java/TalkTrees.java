@@ -68,6 +68,7 @@ public final class TalkTrees {
         }
         past.remember(now);
         builder.join(now, node);
+        builder.mark(now, node);
         return now.costOf(now.tree);
     }
 
@@ -80,6 +81,7 @@ public final class TalkTrees {
         }
         past.remember(now);
         builder.leave(now, node);
+        builder.mark(now, node);
         return now.costOf(now.tree);
     }
 
@@ -446,7 +448,8 @@ public final class TalkTrees {
             return NONE;
         }
 
-        void mark(int node) {
+        /** A mark at the end; or, if there is one, that is taken out. */
+        void turnMark(int node) {
             int place = markOf(node);
             if (place >= 0) {
                 markCount--;
@@ -472,7 +475,7 @@ public final class TalkTrees {
 
     /** The least ways of all nodes to some goals. */
     private static final class Ways {
-        /** Above the cost of any way times this, there is room for its number of links. */
+        /** More than the links of any way, so that these never count as much as one of cost. */
         private static final int ONE_COST = 16;
         private static final int NO_WAY = 1 << 20;
 
@@ -582,17 +585,16 @@ public final class TalkTrees {
             ways.find(talk, talk.tree);
             talk.members |= 1 << node;
             talk.tree |= ways.linksFrom(talk, node);
-            markChange(talk, node);
         }
 
         void leave(Talk talk, int node) {
             talk.members &= ~(1 << node);
             talk.prune();
-            markChange(talk, node);
         }
 
-        private void markChange(Talk talk, int node) {
-            talk.mark(node);
+        /** Marks whoever joined or left, and rearranges, if that makes marks enough. */
+        void mark(Talk talk, int node) {
+            talk.turnMark(node);
             if (talk.limit != 0 && talk.markCount >= talk.limit) {
                 rearrange(talk);
             }
@@ -728,8 +730,7 @@ public final class TalkTrees {
 
     /** THE TEXT, and how it is read. */
     private static final class Text {
-        private static final int END = 0, FIGURES = 1, SEMICOLON = 2, OTHER = 3;
-        private static final int NODES = 4, SOURCE = 5, LIMIT = 6, LINK = 7;
+        private static final int END = 0, WORD = 1, FIGURES = 2, SEMICOLON = 3, OTHER = 4;
         private static final int ABOVE_FAULTS = -10;
 
         final int[] letters = new int[MOST_LETTERS];
@@ -778,12 +779,14 @@ public final class TalkTrees {
         /** From the item's word, that is taken already, on; false: the token taken last is at fault. */
         private boolean readItem(Talk talk, int itemsAhead) {
             boolean right = false;
-            switch (kind) {
-                case NODES: right = itemsAhead == 0 && readNodes(talk); break;
-                case SOURCE: right = !sourceTold && readSource(talk); break;
-                case LIMIT: right = readLimit(talk); break;
-                case LINK: right = talk.links < MOST_LINKS && readLink(talk); break;
-                default: break;
+            if (isWord("nodes")) {
+                right = itemsAhead == 0 && readNodes(talk);
+            } else if (isWord("source")) {
+                right = !sourceTold && readSource(talk);
+            } else if (isWord("limit")) {
+                right = readLimit(talk);
+            } else if (isWord("link")) {
+                right = talk.links < MOST_LINKS && readLink(talk);
             }
             return right && takeSemicolon();
         }
@@ -860,7 +863,7 @@ public final class TalkTrees {
                 while (end < length && isSmallLetter(end)) {
                     end++;
                 }
-                kind = wordTaken();
+                kind = WORD;
             } else {
                 end++;
                 kind = letters[start] == ';' ? SEMICOLON : OTHER;
@@ -875,21 +878,9 @@ public final class TalkTrees {
             return letters[place] >= 'a' && letters[place] <= 'z';
         }
 
-        private int wordTaken() {
-            if (isTaken("nodes")) {
-                return NODES;
-            }
-            if (isTaken("source")) {
-                return SOURCE;
-            }
-            if (isTaken("limit")) {
-                return LIMIT;
-            }
-            return isTaken("link") ? LINK : OTHER;
-        }
-
-        private boolean isTaken(String word) {
-            if (end - start != word.length()) {
+        /** Whether the token read last is this word. */
+        private boolean isWord(String word) {
+            if (kind != WORD || end - start != word.length()) {
                 return false;
             }
             for (int i = 0; i < word.length(); i++) {
